@@ -29,8 +29,10 @@ public final class UntoldFacts {
 
     public UntoldFacts() {
         text = new Text();
-        reader = new Reader(text);
-        planner = new Planner();
+        place = new Town();
+        draft = new Town();
+        reader = new Reader(text, draft);
+        planner = new Planner(place);
         hatCounter = new HatCounter();
         book = new Book();
         now = new Talk();
@@ -39,8 +41,6 @@ public final class UntoldFacts {
             images[i] = new Talk();
         }
         kept = new boolean[IMAGES];
-        place = new Town();
-        draft = new Town();
         faultAt = NONE;
         place.clear();
         place.settle();
@@ -369,7 +369,7 @@ public final class UntoldFacts {
         }
 
         static long lacking(long family, int f) {
-            return family & ~having(family, f);
+            return f >= 0 && f < WITH.length ? family & ~WITH[f] : family;
         }
 
         static long havingAll(long family, int set) {
@@ -394,8 +394,7 @@ public final class UntoldFacts {
 
         /** The SETS of a family, f put to each of them. */
         static long put(long family, int f) {
-            long without = lacking(family, f);
-            return having(family, f) | without << (1 << f);
+            return having(family, f) | lacking(family, f) << (1 << f);
         }
 
         /** FACTS that are in all SETS; none, if there are no SETS. */
@@ -590,8 +589,9 @@ public final class UntoldFacts {
         private int faultNumber;
         int faultAt;
 
-        Reader(Text text) {
+        Reader(Text text, Town town) {
             this.text = text;
+            this.town = town;
         }
 
         /** The number of the first fault, 0 without one. */
@@ -670,20 +670,15 @@ public final class UntoldFacts {
             // Unlike ones are six at most: a seventh has a fault.
             for (int k = 0; more && k <= MOST_FACTS; k++) {
                 step();
-                set |= readUnlike(set);
+                int at = start;
+                int f = readNumber(0, town.facts - 1);
+                if (faultNumber == 0 && has(set, f)) {
+                    failAt(AGAIN, at);
+                }
                 more = faultNumber == 0 && isSign(',');
+                set |= faultNumber == 0 ? 1 << f : 0;
             }
             return set;
-        }
-
-        /** A FACT that is not in the SET, as a SET; empty at a fault. */
-        private int readUnlike(int set) {
-            int at = start;
-            int f = readNumber(0, town.facts - 1);
-            if (faultNumber == 0 && has(set, f)) {
-                failAt(AGAIN, at);
-            }
-            return faultNumber == 0 ? 1 << f : 0;
         }
 
         private int readNumber(int low, int high) {
@@ -735,17 +730,17 @@ public final class UntoldFacts {
 
         private int valueOfToken() {
             int sum = 0;
-            for (int k = start; k < end && k < start + MOST_FIGURES; k++) {
-                sum = sum * 10 + byteAt(k) - '0';
+            for (int k = start; k < end && k < text.length && k < start + MOST_FIGURES; k++) {
+                sum = sum * 10 + text.bytes[k] - '0';
             }
             return sum;
         }
 
         private int kindAt(int at) {
-            if (at >= text.length) {
+            if (at < 0 || at >= text.length) {
                 return END;
             }
-            int sign = byteAt(at);
+            int sign = text.bytes[at];
             if (sign >= 'a' && sign <= 'z') {
                 return WORD;
             }
@@ -753,7 +748,7 @@ public final class UntoldFacts {
         }
 
         private int byteAt(int at) {
-            return at >= 0 && at < text.length && at < Text.MOST ? text.bytes[at] : 0;
+            return at >= 0 && at < text.length ? text.bytes[at] : 0;
         }
 
         private boolean isSign(char sign) {
@@ -1037,6 +1032,10 @@ public final class UntoldFacts {
         /** Of the plan found; NONE. */
         int count;
 
+        Planner(Town town) {
+            this.town = town;
+        }
+
         void find(Town in, Talk now, int a, int b) {
             town = in;
             first = a;
@@ -1044,9 +1043,10 @@ public final class UntoldFacts {
             goal = now.known[a] | now.known[b];
             onlyTold = goal & ~in.followers();
             count = NONE;
-            for (limit = 0; limit <= MOST_SAYINGS && count == NONE; limit++) {
+            for (int sayings = 0; sayings <= MOST_SAYINGS && count == NONE; sayings++) {
+                limit = sayings;
                 if (search(0, now.known[a], now.known[b], now.view(a, b), now.view(b, a))) {
-                    count = limit;
+                    count = sayings;
                 }
             }
         }
