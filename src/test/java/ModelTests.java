@@ -38,7 +38,7 @@ public final class ModelTests {
     }
 
     private boolean run() {
-        if (random.nextInt(8) != 0) tell(goodText());
+        if (random.nextInt(20) != 0) tell(goodText());
         for (int k = 0; k < CALLS && same && calls.size() < CALLS; k++) step();
         return same;
     }
@@ -151,7 +151,7 @@ public final class ModelTests {
     private void step() {
         int a = p(), b = other(a), c = other(b), f = f(), i = i();
         switch (random.nextInt(36)) {
-            case 0: if (random.nextInt(6) == 0) tell(random.nextInt(3) == 0 ? goodText() : badText()); break;
+            case 0: tell(random.nextInt(4) == 0 ? badText() : goodText()); break;
             case 1: { int w = number(7); same("told(" + w + ")", own.told(w), model.told(w)); break; }
             case 2: { int w = number(3); same("fact(" + f + ", " + w + ")", own.fact(f, w), model.fact(f, w)); break; }
             case 3: { int w = number(4); same("person(" + a + ", " + w + ")", own.person(a, w), model.person(a, w)); break; }
@@ -161,20 +161,21 @@ public final class ModelTests {
             case 8: same("safe(" + a + ", " + b + ")", own.safe(a, b), model.safe(a, b)); break;
             case 9: same("odds(" + a + ", " + b + ", " + f + ")", own.odds(a, b, f), model.odds(a, b, f)); break;
             case 10: same("best(" + a + ", " + b + ")", own.best(a, b), model.best(a, b)); break;
-            case 11: case 12: case 13: case 14: case 15: saying(a, b); break;
+            case 11: case 12: case 13: saying(a, b); break;
+            case 14: case 15: wholePlan(a, b); break;
             case 16: case 17: same("silent(" + a + ", " + b + ")", own.silent(a, b), model.silent(a, b)); break;
             case 18: if (random.nextInt(4) == 0) same("morning()", own.morning(), model.morning()); break;
-            case 19: if (random.nextInt(8) == 0) { int s = number(1 << facts); same("party(" + s + ")", own.party(s), model.party(s)); } break;
+            case 19: if (random.nextInt(4) == 0) { int s = number(1 << facts); same("party(" + s + ")", own.party(s), model.party(s)); } break;
             case 20: case 21: same("plan(" + a + ", " + b + ", " + i + ")", own.plan(a, b, i), model.plan(a, b, i)); break;
             case 22: if (random.nextInt(20) == 0) { int d = number(8); same("hats(" + d + ")", own.hats(d), model.hats(d)); } break;
             case 23: same("common(" + c + ", " + a + ", " + b + ")", own.common(c, a, b), model.common(c, a, b)); break;
             case 24: case 25: same("knew(" + a + ", " + i + ")", own.knew(a, i), model.knew(a, i)); break;
             case 26: same("bore()", own.bore(), model.bore()); break;
             case 27: { int w = number(5), n = number(70); same("log(" + n + ", " + w + ")", own.log(n, w), model.log(n, w)); break; }
-            case 28: case 29: { int g = random.nextInt(3) == 0 ? f : known(a); same("write(" + a + ", " + b + ", " + g + ")", own.write(a, b, g), model.write(a, b, g)); break; }
-            case 30: if (random.nextInt(9) == 0) same("tear()", own.tear(), model.tear()); break;
+            case 28: case 29: writing(a, b); break;
+            case 30: if (random.nextInt(3) == 0) same("tear()", own.tear(), model.tear()); break;
             case 31: same("judge()", own.judge(), model.judge()); break;
-            case 32: drifting(); break;
+            case 32: if (random.nextInt(3) == 0) drifting(); break;
             case 33: { int v = random.nextInt(4) == 0 ? number(9) : random.nextInt() & Integer.MAX_VALUE; same("seed(" + v + ")", own.seed(v), model.seed(v)); break; }
             case 34: { int k = number(3); same("keep(" + k + ")", own.keep(k), model.keep(k)); break; }
             default: { int k = number(3); same("goBack(" + k + ")", own.goBack(k), model.goBack(k)); }
@@ -186,6 +187,22 @@ public final class ModelTests {
         int f = safe > 0 && random.nextBoolean() ? Integer.numberOfTrailingZeros(safe) : known(a);
         int l = listeners(a, b);
         same("say(" + a + ", " + b + ", " + f + ", " + l + ")", own.say(a, b, f, l), model.say(a, b, f, l));
+    }
+
+    private void writing(int a, int b) {
+        int unknown = model.person(a, 0) & ~model.person(b, 0);
+        int f = random.nextInt(6) == 0 ? f() : unknown > 0 ? Integer.numberOfTrailingZeros(unknown) : known(a);
+        same("write(" + a + ", " + b + ", " + f + ")", own.write(a, b, f), model.write(a, b, f));
+    }
+
+    /** All of a plan, and often its first sayings. */
+    private void wholePlan(int a, int b) {
+        int n = same("plan(" + a + ", " + b + ", -1)", own.plan(a, b, -1), model.plan(a, b, -1));
+        for (int i = 0; i < 2 * n; i++) same("plan(" + a + ", " + b + ", " + i + ")", own.plan(a, b, i), model.plan(a, b, i));
+        if (n > 0 && random.nextBoolean()) {
+            int from = model.plan(a, b, 0), to = a + b - from, f = model.plan(a, b, 1);
+            same("say(" + from + ", " + to + ", " + f + ", 0)", own.say(from, to, f, 0), model.say(from, to, f, 0));
+        }
     }
 
     private void drifting() {

@@ -197,6 +197,14 @@ public final class PromiseTests {
 
     private static void wordsThatCannotStand() {
         read("facts 1;", -11, 0);
+        read("factz 1;", -11, 0);
+        read("facta 1;", -11, 0);
+        read("xact 1;", -11, 0);
+        read("hatr 5;", -11, 0);
+        read("fact`1;", -11, 4);
+        read("fact{1;", -11, 4);
+        read("fact 1/;", -11, 6);
+        read("fact 1:;", -11, 6);
         read("hat", -11, 0);
         read("ha ts 5;", -11, 0);
         read("HATS 5;", -11, 0);
@@ -286,6 +294,14 @@ public final class PromiseTests {
         due("seed(0)", x.seed(0), 77);
         canKnowIs(x, 1, 0, 1);
         canKnowIs(x, 0, 1, 0);
+        // Nothing of earlier towns is left, however many there were.
+        for (int k = 0; k < 3; k++) {
+            feedAll(x, "hats " + (2 + k) + ";fact 4;fact 1;person;person knows 1;");
+            due("town()", x.town(), 2);
+            due("canKnow(1, 0, NONE)", x.canKnow(1, 0, NONE), k == 1 ? 1 : 2);
+        }
+        canKnowIs(x, 1, 0, 0, 1);
+        canKnowIs(x, 0, 1, 2, 3);
         due("town() of nothing", x.town(), 0);
         due("told(0)", x.told(0), 0);
     }
@@ -544,6 +560,7 @@ public final class PromiseTests {
         logIs(y, 4, 1, 0, 4, 4, 0);
         for (int p = 0; p < 3; p++) due("person(" + p + ", 0)", y.person(p, 0), 63);
         due("party(63) again", y.party(63), 0);
+        due("party(63) of six", told(PLAIN).party(63), 6);
         refused(y, z -> {
             for (int s : new int[] {-1, 64, LOW, HIGH}) due("party(" + s + ")", z.party(s), UNKNOWN);
         });
@@ -570,6 +587,7 @@ public final class PromiseTests {
         // Both are told 1 and 2 by telling 0: the plan of one saying comes ahead of the longer ones.
         UntoldFacts chain = told("hats 99;fact 1;fact 2 follows 0;fact 4 follows 1;person knows 2;person knows 0;");
         planIs(chain, 0, 1, 1, 0);
+        planIs(told("hats 99;fact 1;fact 2 follows 0;fact 4 follows 1;person;person knows 0;"), 0, 1, 1, 0);
         UntoldFacts seven = told("hats 99;fact 1;fact 2;fact 4;fact 8;fact 16;fact 32;person knows 0,1,2,3,4,5;person;");
         due("plan of six", seven.plan(0, 1, NONE), 6);
         due("plan of six, told the other way round", seven.plan(1, 0, 10), 0);
@@ -589,6 +607,9 @@ public final class PromiseTests {
         due("hats(2)", like.hats(2), NONE);
         due("hats(6)", told("fact 99;").hats(6), 2);
         due("hats(1)", told("fact 60;").hats(1), 7);
+        due("hats(5), the greatest", told("fact 77;fact 45;fact 55;fact 71;fact 80;fact 11;").hats(5), 99);
+        due("hats(6), great sums", told("fact 92;fact 86 follows 0;fact 91 follows 1;fact 82 follows 2;"
+            + "fact 94 follows 3;fact 80 follows 1;").hats(6), 26);
         refused(x, z -> {
             for (int d : new int[] {0, 7, -1, LOW, HIGH}) due("hats(" + d + ")", z.hats(d), OUTSIDE);
         });
@@ -770,7 +791,16 @@ public final class PromiseTests {
         hushed.seed(2147483647);
         // DRAWS: 1 of four, then 2 of three: the others are 0, 2, 3.
         due("drift(1, 1000000)", hushed.drift(1, 1000000), 0);
-        due("seed(0)", hushed.seed(0), 288979989);
+        due("seed(12345)", hushed.seed(12345), 288979989);
+        // DRAWS: 0 of four, then 1 of three: the others are 1, 2, 3.
+        hushed.keep(0);
+        due("drift(1, 500001)", hushed.drift(1, 500001), 0);
+        due("told(4)", hushed.told(4), 0);
+        canKnowIs(hushed, 2, 0, 5);
+        hushed.goBack(0);
+        due("drift(1, 500000)", hushed.drift(1, 500000), 0);
+        logIs(hushed, 0, 0, 2, 0, 0, 0);
+        canKnowIs(hushed, 2, 0, 5, 11);
     }
 
     private static void promise28() {
@@ -820,6 +850,8 @@ public final class PromiseTests {
         due("goBack(0)", x.goBack(0), NOT);
         x.drift(20, 0);
         x.morning();
+        x.say(0, 1, 0, 0);
+        x.say(0, 1, 2, 4);
         x.silent(0, 1);
         due("goBack(1)", x.goBack(1), 1);
         due("what is so", sight(x).equals(kept) ? 1 : 0, 1);
@@ -836,5 +868,25 @@ public final class PromiseTests {
         x.goBack(1);
         due("fault() stays", x.fault(), 0);
         due("goBack(1) once more", x.person(3, 2), 1);
+        fivePersons();
+    }
+
+    private static void fivePersons() {
+        UntoldFacts x = told("hats 99;fact 1;fact 2;person;person;person;person;person knows 0;");
+        x.keep(0);
+        List<Integer> first = sight(x);
+        due("say(4, 3, 0, 7)", x.say(4, 3, 0, 7), 0);
+        due("say(3, 4, 0, 0)", x.say(3, 4, 0, 0), 1);
+        due("say(4, 3, 0, 0)", x.say(4, 3, 0, 0), 1);
+        due("morning()", x.morning(), 15);
+        List<Integer> second = sight(x);
+        x.keep(1);
+        x.goBack(0);
+        due("IMAGE 0 of five", sight(x).equals(first) ? 1 : 0, 1);
+        x.goBack(1);
+        due("IMAGE 1 of five", sight(x).equals(second) ? 1 : 0, 1);
+        x.goBack(0);
+        x.write(4, 0, 0);
+        due("judge() of five", x.judge(), NONE);
     }
 }
