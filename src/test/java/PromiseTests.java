@@ -1,118 +1,20 @@
-import java.util.ArrayList;
 import java.util.List;
 
 /** A method for each promise: ordinary inputs, the edges that the document names, wrong inputs. */
-public final class PromiseTests {
-    private static final int NONE = -1, UNKNOWN = -1000000001, OUTSIDE = -1000000002, NOT = -1000000003, FULL = -1000000004;
-    private static final int LOW = Integer.MIN_VALUE, HIGH = Integer.MAX_VALUE;
-
-    /**
-     * CLOSED SETS by HAT: 0 {0, 13}, 1 {1, 14}, 2 {2, 8, 15}, 3 {9}, 4 {4, 10}, 5 {5, 11}, 6 {6, 12}.
-     * PERSONS know 5, 2, 0, 11; HATS 5, 2, 0, 5.
-     */
-    private static final String SEVEN = "hats 7;fact 1;fact 2;fact 4;fact 9 follows 0,1;"
-        + "person knows 0,2;person knows 1;person;person knows 0,1;";
-    /** Each SET has a HAT of its own. */
-    private static final String PLAIN = "hats 99;fact 1;fact 2;fact 4;fact 8;fact 16;fact 32;"
-        + "person knows 0,1,2;person knows 3,4,5;person;";
-    /** HATS: 0 {0, 3}, 1 {1, 2}; PERSONS know 3, 0, 1. */
-    private static final String TWO = "hats 2;fact 1;fact 1;person knows 0,1;person;person knows 0;";
-
-    private static int wrong = 0;
-    private static int promise = 0;
-
+public final class PromiseTests extends Check {
     public static void main(String[] args) {
         promise1(); promise2(); promise3(); promise4(); promise5(); promise6();
         promise7(); promise8(); promise9(); promise10(); promise11(); promise12();
         promise13(); promise14(); promise15(); promise16(); promise17(); promise18();
         promise19(); promise20(); promise21(); promise22(); promise23(); promise24();
         promise25(); promise26(); promise27(); promise28(); promise29(); promise30();
-        System.out.println("PromiseTests: " + (wrong == 0 ? "all answers are as due" : wrong + " answers are not as due"));
-        if (wrong != 0) System.exit(1);
-    }
-
-    // ---- tools
-
-    private static void due(String call, long got, long want) {
-        if (got != want) {
-            wrong++;
-            System.out.println("promise " + promise + ": " + call + " answered " + got + ", due is " + want);
-        }
-    }
-
-    private static void feedAll(UntoldFacts x, String text) {
-        for (int at = 0; at < text.length(); at += 8) {
-            int n = Math.min(8, text.length() - at);
-            long bytes = 0;
-            for (int k = 0; k < n; k++) bytes = bytes << 8 | text.charAt(at + k);
-            x.feed(n, bytes);
-        }
-    }
-
-    private static UntoldFacts told(String text) {
-        UntoldFacts x = new UntoldFacts();
-        feedAll(x, text);
-        due("town() of " + text, x.town() < 0 ? 1 : 0, 0);
-        return x;
-    }
-
-    /** What can be seen of an object without changing it, but for IMAGES. */
-    private static List<Integer> sight(UntoldFacts x) {
-        List<Integer> all = new ArrayList<>();
-        for (int w = 0; w < 7; w++) all.add(x.told(w));
-        all.add(x.fault());
-        all.add(x.judge());
-        for (int p = 0; p < x.told(1); p++) {
-            for (int w = 0; w < 4; w++) all.add(x.person(p, w));
-            for (int q = 0; q < x.told(1); q++) {
-                if (p == q) continue;
-                for (int i = -1; i < 2; i++) all.add(x.canKnow(p, q, i));
-            }
-        }
-        int seed = x.seed(0);
-        x.seed(seed);
-        all.add(seed);
-        return all;
-    }
-
-    /** Calls that are refused, and change nothing. */
-    private interface Calls {
-        void on(UntoldFacts x);
-    }
-
-    private static void refused(UntoldFacts x, Calls calls) {
-        List<Integer> before = sight(x);
-        calls.on(x);
-        List<Integer> after = sight(x);
-        due("what is so after refusals " + before + " " + after, before.equals(after) ? 1 : 0, 1);
-    }
-
-    private static void canKnowIs(UntoldFacts x, int p, int q, int... sets) {
-        due("canKnow(" + p + ", " + q + ", NONE)", x.canKnow(p, q, NONE), sets.length);
-        for (int i = 0; i < sets.length; i++) due("canKnow(" + p + ", " + q + ", " + i + ")", x.canKnow(p, q, i), sets[i]);
-        due("canKnow behind", x.canKnow(p, q, sets.length), NONE);
-    }
-
-    private static void knewIs(UntoldFacts x, int q, int... sets) {
-        due("knew(" + q + ", NONE)", x.knew(q, NONE), sets.length);
-        for (int i = 0; i < sets.length; i++) due("knew(" + q + ", " + i + ")", x.knew(q, i), sets[i]);
-        due("knew behind", x.knew(q, sets.length), NONE);
-    }
-
-    private static void planIs(UntoldFacts x, int a, int b, int... parts) {
-        due("plan(" + a + ", " + b + ", NONE)", x.plan(a, b, NONE), parts.length / 2);
-        for (int i = 0; i < parts.length; i++) due("plan(" + a + ", " + b + ", " + i + ")", x.plan(a, b, i), parts[i]);
-        due("plan behind", x.plan(a, b, parts.length), NONE);
-    }
-
-    private static void logIs(UntoldFacts x, int i, int... entry) {
-        for (int w = 0; w < 5; w++) due("log(" + i + ", " + w + ")", x.log(i, w), entry[w]);
+        end("PromiseTests");
     }
 
     // ---- the town
 
     private static void promise1() {
-        promise = 1;
+        about = "promise 1";
         UntoldFacts x = new UntoldFacts();
         int[] want = {0, 0, 10, 0, 0, 0, 1};
         for (int w = 0; w < 7; w++) due("told(" + w + ")", x.told(w), want[w]);
@@ -138,7 +40,7 @@ public final class PromiseTests {
     }
 
     private static void promise2() {
-        promise = 2;
+        about = "promise 2";
         UntoldFacts x = new UntoldFacts();
         due("feed(1)", x.feed(1, 0x0102030405060770L), 1);
         due("feed(6)", x.feed(6, 0x7777_6572736F6E3BL), 7);
@@ -165,16 +67,8 @@ public final class PromiseTests {
         due("told(3)", x.told(3), 0);
     }
 
-    private static void read(String text, int answer, int at) {
-        UntoldFacts x = new UntoldFacts();
-        feedAll(x, text);
-        due("town() of '" + text + "'", x.town(), answer);
-        due("fault() of '" + text + "'", x.fault(), at);
-        due("told(3) behind '" + text + "'", x.told(3), 0);
-    }
-
     private static void promise3() {
-        promise = 3;
+        about = "promise 3";
         goodTexts();
         wordsThatCannotStand();
         badNumbers();
@@ -307,7 +201,7 @@ public final class PromiseTests {
     }
 
     private static void promise4() {
-        promise = 4;
+        about = "promise 4";
         UntoldFacts x = new UntoldFacts();
         due("fault()", x.fault(), NONE);
         feedAll(x, "hats 1;");
@@ -321,7 +215,7 @@ public final class PromiseTests {
     }
 
     private static void promise5() {
-        promise = 5;
+        about = "promise 5";
         UntoldFacts x = told(SEVEN);
         x.say(0, 1, 0, 0);
         x.write(0, 1, 0);
@@ -335,7 +229,7 @@ public final class PromiseTests {
     }
 
     private static void promise6() {
-        promise = 6;
+        about = "promise 6";
         UntoldFacts x = told(SEVEN);
         due("fact(2, 0)", x.fact(2, 0), 4);
         due("fact(3, 0)", x.fact(3, 0), 9);
@@ -352,7 +246,7 @@ public final class PromiseTests {
     }
 
     private static void promise7() {
-        promise = 7;
+        about = "promise 7";
         UntoldFacts x = told(SEVEN);
         int[][] want = {{5, 5, 0, 0}, {2, 2, 0, 0}, {0, 0, 0, 2}, {11, 5, 0, 0}};
         for (int p = 0; p < 4; p++) for (int w = 0; w < 4; w++) due("person(" + p + ", " + w + ")", x.person(p, w), want[p][w]);
@@ -367,7 +261,7 @@ public final class PromiseTests {
     }
 
     private static void promise8() {
-        promise = 8;
+        about = "promise 8";
         UntoldFacts x = told(SEVEN);
         int[] want = {0, 1, 2, 11, 4, 5, 6, 15, 8, 9, 10, 11, 12, 13, 14, 15};
         for (int s = 0; s < 16; s++) due("closed(" + s + ")", x.closed(s), want[s]);
@@ -383,7 +277,7 @@ public final class PromiseTests {
     // ---- what others can know
 
     private static void promise9() {
-        promise = 9;
+        about = "promise 9";
         UntoldFacts x = told(SEVEN);
         canKnowIs(x, 0, 1, 2, 8, 15);
         canKnowIs(x, 1, 0, 5, 11);
@@ -398,7 +292,7 @@ public final class PromiseTests {
     }
 
     private static void promise10() {
-        promise = 10;
+        about = "promise 10";
         UntoldFacts x = told(SEVEN);
         due("sure(1, 0, 0)", x.sure(1, 0, 0), 1);
         due("sure(1, 0, 1)", x.sure(1, 0, 1), 0);
@@ -416,7 +310,7 @@ public final class PromiseTests {
     }
 
     private static void promise11() {
-        promise = 11;
+        about = "promise 11";
         UntoldFacts x = told(SEVEN);
         due("safe(3, 2)", x.safe(3, 2), 2);
         due("safe(1, 2)", x.safe(1, 2), 2);
@@ -431,7 +325,7 @@ public final class PromiseTests {
     }
 
     private static void promise12() {
-        promise = 12;
+        about = "promise 12";
         UntoldFacts x = told(SEVEN);
         due("odds(0, 1, 0)", x.odds(0, 1, 0), 666666);
         due("odds(0, 1, 1)", x.odds(0, 1, 1), 333333);
@@ -448,7 +342,7 @@ public final class PromiseTests {
     }
 
     private static void promise13() {
-        promise = 13;
+        about = "promise 13";
         UntoldFacts x = told(SEVEN);
         due("best(0, 1), the least of like ones", x.best(0, 1), 0);
         due("best(3, 2)", x.best(3, 2), 1);
@@ -466,7 +360,7 @@ public final class PromiseTests {
     // ---- talks
 
     private static void promise14() {
-        promise = 14;
+        about = "promise 14";
         UntoldFacts x = told(SEVEN);
         due("say(0, 1, 0, 4)", x.say(0, 1, 0, 4), 0);
         int[] known = {5, 11, 1, 11};
@@ -502,7 +396,7 @@ public final class PromiseTests {
     }
 
     private static void promise15() {
-        promise = 15;
+        about = "promise 15";
         UntoldFacts x = told(SEVEN);
         due("silent(0, 2)", x.silent(0, 2), 1);
         canKnowIs(x, 2, 0, 5);
@@ -521,7 +415,7 @@ public final class PromiseTests {
     }
 
     private static void promise16() {
-        promise = 16;
+        about = "promise 16";
         UntoldFacts x = told(SEVEN);
         x.say(3, 2, 1, 1);
         due("person(0, 0)", x.person(0, 0), 15);
@@ -544,7 +438,7 @@ public final class PromiseTests {
     }
 
     private static void promise17() {
-        promise = 17;
+        about = "promise 17";
         UntoldFacts x = told(SEVEN);
         due("party(13)", x.party(13), 0);
         due("party(2)", x.party(2), 1);
@@ -569,7 +463,7 @@ public final class PromiseTests {
     // ---- plans
 
     private static void promise18() {
-        promise = 18;
+        about = "promise 18";
         UntoldFacts x = told(PLAIN);
         refused(x, y -> {
             planIs(y, 0, 1, 0, 0, 0, 1, 0, 2, 1, 3, 1, 4, 1, 5);
@@ -594,7 +488,7 @@ public final class PromiseTests {
     }
 
     private static void promise19() {
-        promise = 19;
+        about = "promise 19";
         UntoldFacts x = told(SEVEN);
         due("hats(1)", x.hats(1), 5);
         due("hats(2)", x.hats(2), 12);
@@ -616,7 +510,7 @@ public final class PromiseTests {
     }
 
     private static void promise20() {
-        promise = 20;
+        about = "promise 20";
         UntoldFacts x = told(SEVEN);
         due("common(2, 0, 3)", x.common(2, 0, 3), 1);
         due("common(1, 0, 3)", x.common(1, 0, 3), 1);
@@ -630,7 +524,7 @@ public final class PromiseTests {
     }
 
     private static void promise21() {
-        promise = 21;
+        about = "promise 21";
         UntoldFacts x = told(SEVEN);
         knewIs(x, 0, 5, 11);
         knewIs(x, 1, 2, 8, 15);
@@ -658,7 +552,7 @@ public final class PromiseTests {
     }
 
     private static void promise22() {
-        promise = 22;
+        about = "promise 22";
         UntoldFacts x = told(SEVEN);
         due("bore(), of like ones the least", x.bore(), 0);
         // SURE at first: 0 of 2 (FACT 1 of 2, FACT 0 of 3), 1 of 3, 2 of 2, 3 of 2. Then 2 of 5, 3 of 2, 0 of 5.
@@ -684,7 +578,7 @@ public final class PromiseTests {
     // ---- logs, books
 
     private static void promise23() {
-        promise = 23;
+        about = "promise 23";
         UntoldFacts x = told(SEVEN);
         x.say(3, 2, 1, 0);
         x.silent(0, 1);
@@ -708,7 +602,7 @@ public final class PromiseTests {
     }
 
     private static void promise24() {
-        promise = 24;
+        about = "promise 24";
         UntoldFacts x = told(SEVEN);
         refused(x, y -> {
             int[][] no = {{1, 1, 0}, {-1, 0, 0}, {0, -1, 0}, {4, 0, 0}, {0, 4, 0}, {0, 1, 4}, {0, 1, -1}, {LOW, HIGH, 0}};
@@ -722,7 +616,7 @@ public final class PromiseTests {
     }
 
     private static void promise25() {
-        promise = 25;
+        about = "promise 25";
         UntoldFacts x = told(SEVEN);
         due("tear()", x.tear(), 0);
         x.write(2, 0, 3);
@@ -737,7 +631,7 @@ public final class PromiseTests {
     }
 
     private static void promise26() {
-        promise = 26;
+        about = "promise 26";
         UntoldFacts x = told(SEVEN);
         x.write(0, 1, 0);
         x.write(1, 2, 3);
@@ -761,7 +655,7 @@ public final class PromiseTests {
     // ---- draws, images
 
     private static void promise27() {
-        promise = 27;
+        about = "promise 27";
         UntoldFacts x = told(PLAIN);
         due("drift(4, 1000000)", x.drift(4, 1000000), 1);
         due("told(4)", x.told(4), 4);
@@ -804,7 +698,7 @@ public final class PromiseTests {
     }
 
     private static void promise28() {
-        promise = 28;
+        about = "promise 28";
         UntoldFacts x = told(SEVEN);
         due("seed(5)", x.seed(5), 0);
         due("seed(HIGH)", x.seed(HIGH), 5);
@@ -817,7 +711,7 @@ public final class PromiseTests {
     }
 
     private static void promise29() {
-        promise = 29;
+        about = "promise 29";
         UntoldFacts x = told(SEVEN);
         for (int i : new int[] {-1, 2, LOW, HIGH}) due("keep(" + i + ")", x.keep(i), UNKNOWN);
         due("goBack(0), not kept", x.goBack(0), NOT);
@@ -838,7 +732,7 @@ public final class PromiseTests {
     }
 
     private static void promise30() {
-        promise = 30;
+        about = "promise 30";
         UntoldFacts x = told(SEVEN);
         for (int i : new int[] {-1, 2, LOW, HIGH}) due("goBack(" + i + ")", x.goBack(i), UNKNOWN);
         refused(x, y -> due("goBack(1)", y.goBack(1), NOT));
