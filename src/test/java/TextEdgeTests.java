@@ -1,3 +1,4 @@
+import java.util.ArrayList;
 import java.util.List;
 
 /** THE TEXT: each sentence of section 1 and of promises 1 to 4 that names a boundary case. */
@@ -33,6 +34,7 @@ public final class TextEdgeTests extends Check {
         sentence("OUTSIDE, FULL (400).", TextEdgeTests::fullText);
         sentence("THE TEXT (it is empty then) becomes THE TOWN", TextEdgeTests::emptyThen);
         sentence("all as in its first MORNING; no LOG, INSULTS, BOOK; IMAGES are gone; THE SEED stays", TextEdgeTests::newTown);
+        sentence("THE TEXT (it is empty then) becomes THE TOWN (all as in its first MORNING", TextEdgeTests::townBehindTown);
         sentence("-10 less the number of its FAULT (all is as it was)", TextEdgeTests::faultChangesNothing);
         sentence("The byte of the FAULT of the latest town(); NONE.", TextEdgeTests::latestFault);
         end("TextEdgeTests");
@@ -506,6 +508,46 @@ public final class TextEdgeTests extends Check {
         int[] want = {0, 0, 10, 0, 0, 0, 1};
         for (int w = 0; w < 7; w++) due("told(" + w + ")", x.told(w), want[w]);
         due("goBack(0)", x.goBack(0), NOT);
+    }
+
+    /** A town behind another one, of more or fewer FACTS, PERSONS and HATS, is as it is on a new object. */
+    private static void townBehindTown() {
+        String[] towns = {"", "person;", ONE, TWO, SEVEN, PLAIN, BLIND, "hats 99;" + facts(6) + "person knows 0,1,2,3,4,5;".repeat(5),
+            "hats 99;fact 1;fact 2;person knows 0;person knows 1;", "fact 3;fact 1 follows 0;person;person;person;person knows 0;"};
+        for (String first : towns) {
+            for (String then : towns) {
+                UntoldFacts x = told(first);
+                talk(x);
+                feedAll(x, then);
+                x.town();
+                x.seed(0);
+                UntoldFacts y = told(then);
+                holds("'" + then + "' behind '" + first + "'", talk(x).equals(talk(y)));
+            }
+        }
+    }
+
+    private static List<Integer> talk(UntoldFacts x) {
+        List<Integer> all = new ArrayList<>();
+        all.add(x.bore());
+        all.add(x.hats(6));
+        all.add(x.hats(1));
+        for (int i = -1; i < 4; i++) all.add(x.plan(0, 1, i));
+        all.add(x.write(0, 1, 0));
+        all.add(x.judge());
+        all.add(x.silent(1, 0));
+        all.add(x.party(x.told(0) == 0 ? 0 : 1));
+        all.add(x.say(0, 1, 0, 0));
+        all.add(x.morning());
+        all.add(x.drift(7, 0));
+        for (int p = 0; p < 6; p++) all.add(x.knew(p, NONE));
+        for (int p = 0; p < 5; p++) for (int q = 0; q < 6; q++) all.add(x.canKnow(p, q, NONE));
+        for (int p = 0; p < 6; p++) for (int w = 0; w < 4; w++) all.add(x.person(p, w));
+        for (int f = 0; f < 7; f++) for (int w = 0; w < 3; w++) all.add(x.fact(f, w));
+        all.add(x.party(x.told(0) == 0 ? 0 : (1 << x.told(0)) - 1));
+        all.add(x.bore());
+        all.add(x.tear());
+        return all;
     }
 
     private static void faultChangesNothing() {
