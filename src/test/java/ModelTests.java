@@ -5,6 +5,7 @@ import java.util.Random;
 /** Long runs of drawn calls, each answered by UntoldFacts and by Model alike. */
 public final class ModelTests {
     private static final int RUNS = 3000;
+    private static final int PAIRS = 100;
     private static final int CALLS = 505;
     private static final int[] ODD = {-1, -2, 6, 7, 31, 32, 63, 64, 1 << 30, Integer.MAX_VALUE, Integer.MIN_VALUE, -1000000001};
     private static final String[] PIECES = {"hats", "fact", "person", "follows", "knows", ";", ",", " ", "0", "1", "2", "10",
@@ -33,14 +34,39 @@ public final class ModelTests {
                 all.subList(Math.max(0, all.size() - 40), all.size()).forEach(System.out::println);
             }
         }
+        for (int pair = 0; pair < PAIRS; pair++) {
+            if (!together(new ModelTests(RUNS + 2 * pair), new ModelTests(RUNS + 2 * pair + 1))) {
+                wrong++;
+                System.out.println("pair " + pair + " answers otherwise than the models");
+            }
+        }
         System.out.println("ModelTests: " + (wrong == 0 ? "all answers are the model's" : wrong + " runs are wrong"));
         if (wrong != 0) System.exit(1);
     }
 
     private boolean run() {
-        if (random.nextInt(20) != 0) tell(goodText());
-        for (int k = 0; k < CALLS && same && calls.size() < CALLS; k++) step();
+        begin();
+        for (int k = 0; k < CALLS; k++) goOn();
         return same;
+    }
+
+    private void begin() {
+        if (random.nextInt(20) != 0) tell(goodText());
+    }
+
+    private void goOn() {
+        if (same && calls.size() < CALLS) step();
+    }
+
+    /** Two objects by turns: neither answers by what the other was told. */
+    private static boolean together(ModelTests a, ModelTests b) {
+        a.begin();
+        b.begin();
+        for (int k = 0; k < CALLS; k++) {
+            a.goOn();
+            b.goOn();
+        }
+        return a.same && b.same;
     }
 
     private int same(String call, int got, int want) {
